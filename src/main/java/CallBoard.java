@@ -136,7 +136,8 @@ public final class CallBoard {
         if (table.isAbstract(c)) {
             return ABSTRACT;
         }
-        return stock.isFull() ? FULL : stock.bring(c, weight);
+        int number = stock.bring(c, weight);
+        return number == NONE_SUCH ? FULL : number;
     }
 
     public int of(int sample, int what) {
@@ -224,11 +225,10 @@ public final class CallBoard {
         if (owner.hasLaidSame(found)) {
             return LOOP;
         }
-        if (owner.laidCount >= MOST_LAID) {
+        if (!owner.putLaid(found)) {
             return FULL;
         }
         found.state = LAID;
-        owner.putLaid(found);
         return 1;
     }
 
@@ -625,10 +625,11 @@ public final class CallBoard {
     }
 
     private void bringSample(int added) {
-        if (stock.isFull()) {
+        int number = stock.bring(row.classes[0], row.weights[0] + added);
+        if (number == NONE_SUCH) {
             latest.endWithFailure(NO_MORE_SAMPLES);
         } else {
-            latest.endWithValue(stock.bring(row.classes[0], row.weights[0] + added));
+            latest.endWithValue(number);
         }
     }
 
@@ -704,16 +705,15 @@ public final class CallBoard {
         final int[] weights = new int[MOST_SAMPLES];
         int size = 0;
 
-        boolean isFull() {
-            return size >= MOST_SAMPLES;
-        }
-
         boolean holds(int sample) {
             return sample >= 0 && sample < size;
         }
 
-        /** To be called only while it isn't full. */
+        /** The number of the new sample, or -1 if there is no room for one. */
         int bring(int c, int weight) {
+            if (size >= MOST_SAMPLES) {
+                return NONE_SUCH;
+            }
             classes[size] = c;
             weights[size] = weight;
             size++;
@@ -878,8 +878,11 @@ public final class CallBoard {
             return false;
         }
 
-        /** To be called only while fewer than may be are laid. */
-        void putLaid(Handler h) {
+        /** False if as many as may be are laid. */
+        boolean putLaid(Handler h) {
+            if (laidCount >= MOST_LAID) {
+                return false;
+            }
             int at = laidCount;
             while (at > 0 && laid[at - 1].number > h.number) {
                 laid[at] = laid[at - 1];
@@ -888,6 +891,7 @@ public final class CallBoard {
             laid[at] = h;
             laidCount++;
             compareLaid();
+            return true;
         }
 
         void dropLaid(Handler h) {
