@@ -284,16 +284,23 @@ public final class CallTest {
         int one = Due.lay(x, 2, 7, 2, 3, 1, Due.MAX);
         due.is("call(2) turns one place", x.call(2), 4);
         due.is("step(11)", x.step(11), one);
+        int weighing = x.handler(1, 0, 66, false);
+        x.test(weighing, 0, 40, 40);
+        x.test(weighing, 1, 30, 30);
+        x.lay(weighing);
+        x.lift(plain);
+        due.is("call(0), weights are turned", x.call(0), 0);
+        due.is("value()", x.value(), 67);
+        x.lift(weighing);
         // Twice turned is as told.
-        Due.layTwo(x, 1, 7, 4, 4, -1);
+        int turningBack = Due.layTwo(x, 1, 7, 4, 4, -1);
         Due.layTwo(x, 0, 0, 77, 3, -1);
         x.lift(turning);
-        x.lift(plain);
         x.arg(0, 1);
         x.arg(1, 0);
         due.is("call(1)", x.call(1), 0);
         due.is("value()", x.value(), 78);
-        due.is("applicable(1, 0), told as before", x.applicable(1, 0), 3);
+        due.is("applicable(1, 0), told as before", x.applicable(1, 0), turningBack);
     }
 
     private static void missingFunctions() {

@@ -35,6 +35,9 @@ public final class HandlerTest {
         due.is("function(1) of 4", x.function(1), CallBoard.FULL);
         due.is("function(3) of 4", x.function(3), CallBoard.NUMBER);
         due.is("count(-1, 0)", x.count(-1, 0), 4);
+        due.is("handler(4, 0, ..) of 4", x.handler(4, 0, 0, false), CallBoard.NUMBER);
+        due.is("freeze(4, true) of 4", x.freeze(4, true), CallBoard.NUMBER);
+        due.is("covered(4) of 4", x.covered(4), CallBoard.NUMBER);
         due.is("count(1, 0)", x.count(1, 0), 2);
         due.is("count(3, 0)", x.count(3, 0), 1);
     }

@@ -48,7 +48,7 @@ public final class ModelTest {
     private void oneRun(int number) {
         run = number;
         seed = number * 7919L + 1;
-        spread = 3 + below(20);
+        spread = oneOf(3) ? 1000 : 3 + below(20);
         board = new CallBoard();
         model = new Model();
         for (int i = below(25); i > 0; i--) {

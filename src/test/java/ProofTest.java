@@ -13,6 +13,8 @@ public final class ProofTest {
         doubtsByWeights();
         doubtsOfTwoPlaces();
         manyDoubts();
+        beatenByHalves();
+        manyPieces();
         due.end();
     }
 
@@ -254,5 +256,40 @@ public final class ProofTest {
         x.lift(0);
         doubt(x, 0, 1, 2, 7, 0, 2, 0);
         noDoubt(x, k - 7);
+    }
+
+    private static void beatenByHalves() {
+        CallBoard x = board();
+        x.function(1);
+        int trait = Due.lay(x, 0, 0, 0, 12);
+        int zero = Due.lay(x, 0, 0, 0, 0);
+        // It is more specific than one of the two alone, so it ends no doubt of them.
+        int part = Due.lay(x, 0, 0, 0, 12, Due.MIN, 9);
+        doubt(x, 0, trait, zero, 1, 0, Due.MIN, 0);
+        doubt(x, 1, zero, part, 1, 0, Due.MIN, 0);
+        noDoubt(x, 2);
+    }
+
+    /** Each function has pieces of its own, as many as may be, and its first hole where two ranges cross. */
+    private static void manyPieces() {
+        CallBoard x = board();
+        for (int f = 0; f < 4; f++) {
+            x.function(f < 2 ? 1 : 2);
+            for (int h = 0; h < 7; h++) {
+                pieceHandler(x, f, 1000 * f + 20 * h, 1000 * f + 20 * h + 10);
+            }
+            pieceHandler(x, f, Due.MIN, 1000 * f + 125);
+        }
+        for (int f = 3; f >= 0; f--) {
+            boolean two = f >= 2;
+            hole(x, f, 1, two ? 1 : 0, two ? Due.MIN : 1000 * f + 120, two ? 1000 * f + 120 : 0);
+        }
+        due.is("doubt(1, 0, 4)", x.doubt(1, 0, 4), 1120);
+    }
+
+    private static void pieceHandler(CallBoard x, int f, int low, int high) {
+        int h = x.handler(f, 0, 0, false);
+        x.test(h, f < 2 ? 0 : 1, low, high);
+        x.lay(h);
     }
 }
