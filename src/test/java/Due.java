@@ -4,8 +4,37 @@ final class Due {
     static final int MIN = Integer.MIN_VALUE;
     static final int MAX = Integer.MAX_VALUE;
 
+    /** Far more than any test needs: a call that never ends has to fail its test, not to hold it up. */
+    private static final long MOST_MILLISECONDS = 300_000;
+
     private int wrong = 0;
     private int asked = 0;
+
+    Due() {
+        Thread watch = new Thread(Due::endLate);
+        watch.setDaemon(true);
+        watch.start();
+    }
+
+    private static void endLate() {
+        try {
+            Thread.sleep(MOST_MILLISECONDS);
+        } catch (InterruptedException e) {
+            return;
+        }
+        System.out.println("a call doesn't end");
+        Runtime.getRuntime().halt(1);
+    }
+
+    /** A new run for a sentence of a promise. */
+    Run promise(int number, String words) {
+        return new Run(this, "Promise " + number, words);
+    }
+
+    /** A new run for a sentence of the terms. */
+    Run term(String words) {
+        return new Run(this, "Terms", words);
+    }
 
     void is(String call, long got, long want) {
         asked++;

@@ -107,16 +107,16 @@ public final class FaceTest {
 
     private static void source() throws IOException {
         String text = Files.readString(Path.of(SOURCE)).replaceAll("(?s)/\\*.*?\\*/", "").replaceAll("//.*", "");
-        for (String word : List.of("throw", "throws", "try", "catch", "synchronized", "assert", "package", "protected")) {
+        for (String word : List.of("throw", "throws", "try", "catch", "synchronized", "assert", "protected")) {
             due.is("uses of " + word, uses(text, "\\b" + word + "\\b"), 0);
         }
-        due.is("lambdas", uses(text, "->"), 0);
+        due.is("package lines", uses(text, "(?m)^\\s*package\\b"), 0);
+        due.is("lambdas", uses(text, "->"), uses(text, "(?m)^\\s*(case\\b.*|default) ->"));
         due.is("method references", uses(text, "::"), 0);
         due.is("functions whose name ends in Exact", uses(text, "Exact\\s*\\("), 0);
-        due.is("divisions", uses(text, "[/%]"), 0);
-        due.is("imports", uses(text, "\\bimport\\b"), uses(text, "import java\\.util\\.Arrays;"));
-        due.is("functions of Math", uses(text, "Math\\."), uses(text, "Math\\.(min|max|floorMod)\\("));
-        due.is("functions of Arrays", uses(text, "Arrays\\."), uses(text, "Arrays\\.fill\\("));
+        due.is("static initialiser blocks", uses(text, "\\bstatic\\s*\\{"), 0);
+        due.is("imports", uses(text, "\\bimport\\b"), uses(text, "import java\\.util\\.(Arrays|ArrayList|List|Iterator);"));
+        due.is("functions of Arrays", uses(text, "\\bArrays\\.\\w"), uses(text, "\\bArrays\\.(copyOf|copyOfRange|fill)\\("));
     }
 
     private static int uses(String text, String pattern) {

@@ -628,11 +628,9 @@ final class Model {
         weights.add(Integer.MIN_VALUE);
         weights.add(Integer.MAX_VALUE);
         for (Han h : laid(f)) {
-            for (long near = -1; near <= 1; near++) {
-                for (long edge : new long[] {h.low[i] + near, h.high[i] + near}) {
-                    if (edge == (int) edge) {
-                        weights.add((int) edge);
-                    }
+            for (long edge : new long[] {h.low[i] - 1L, h.low[i], h.high[i], h.high[i] + 1L}) {
+                if (edge == (int) edge) {
+                    weights.add((int) edge);
                 }
             }
         }

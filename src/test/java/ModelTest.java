@@ -1,15 +1,21 @@
+import java.util.ArrayList;
+import java.util.List;
+
 /** Made-up runs of calls on the program and on the model: all answers must be the same. */
 public final class ModelTest {
-    private static final int RUNS = 400;
-    private static final int CALLS = 500;
+    private static final int RUNS = 600;
+    private static final int CALLS = 440;
     private static final int[] ODD = {Due.MIN, Due.MIN + 1, -2, -1, 4, 8, 16, 40, 300, Due.MAX - 1, Due.MAX};
 
     private final Due due = new Due();
     private CallBoard board;
     private Model model;
+    private List<Call> calls;
+    private List<String> questions;
     private long seed;
     private int run;
     private int spread;
+    private int classes;
 
     public static void main(String[] args) {
         ModelTest test = new ModelTest();
@@ -37,12 +43,32 @@ public final class ModelTest {
         return oneOf(12) ? ODD[below(ODD.length)] : below(spread) - spread / 3;
     }
 
-    private void same(String call, long got, long want) {
-        due.is("run " + run + ": " + call, got, want);
+    /** A run uses few classes, so that handlers have something to do with one another. */
+    private int someClass() {
+        return number(0, classes - 1);
     }
 
-    private void same(String call, boolean got, boolean want) {
-        due.is("run " + run + ": " + call, got, want);
+    private int code() {
+        return oneOf(2) ? -1 : oneOf(4) ? number(12, 15) : someClass();
+    }
+
+    private int someFunction() {
+        return number(0, Math.max(0, model.count(-1, 0) - 1));
+    }
+
+    private int someHandler() {
+        return number(0, Math.max(0, model.count(-1, 1) - 1));
+    }
+
+    /** Makes a call, told by its name and numbers, on both. */
+    private void same(String name, Object... given) {
+        StringBuilder text = new StringBuilder(name).append('(');
+        for (int i = 0; i < given.length; i++) {
+            text.append(i == 0 ? "" : ", ").append(given[i]);
+        }
+        Call call = Call.read(text.append(')').toString());
+        calls.add(call);
+        due.is("run " + run + ": " + call, call.on(board), call.on(model));
     }
 
     private void oneRun(int number) {
@@ -51,15 +77,23 @@ public final class ModelTest {
         spread = oneOf(3) ? 1000 : 3 + below(20);
         board = new CallBoard();
         model = new Model();
-        for (int i = below(25); i > 0; i--) {
+        calls = new ArrayList<>();
+        classes = 2 + below(11);
+        for (int c = classes; c < 12 && classes < 8; c++) {
+            same("flag", c);
+        }
+        for (int i = below(6 * classes); i > 0; i--) {
             tableCall();
         }
-        same("close()", board.close(), model.close());
+        same("close");
         if (model.count(-1, 2) == 0) {
             mendParents();
-            same("close() mended", board.close(), model.close());
+            same("close");
         }
-        for (int i = 0; i < CALLS; i++) {
+        for (int i = below(1 + below(4)); i >= 0; i--) {
+            same("function", number(1, 2));
+        }
+        while (calls.size() < CALLS) {
             anyCall();
         }
         tellAll();
@@ -67,200 +101,225 @@ public final class ModelTest {
 
     private void mendParents() {
         for (int c = 0; c < 12; c++) {
-            int p = below(c + 1) - 1;
-            same("parent", board.parent(c, p), model.parent(c, p));
+            same("parent", c, below(c + 1) - 1);
         }
     }
 
     private void tableCall() {
-        int c = number(0, 11);
-        int d = number(-1, 11);
+        int c = someClass();
+        int d = number(-1, classes - 1);
         int t = number(12, 15);
         int u = number(12, 15);
-        switch (below(5)) {
+        switch (below(9)) {
             case 0:
             case 1:
-                int p = oneOf(5) ? d : Math.min(c - 1, d);
-                same("parent(" + c + ", " + p + ")", board.parent(c, p), model.parent(c, p));
-                break;
             case 2:
+            case 3:
+                same("parent", c, oneOf(5) ? d : Math.min(c - 1, d));
+                break;
+            case 4:
                 int above = oneOf(40) ? u : Math.max(t, u);
                 int under = Math.min(t, u);
                 if (above != under || oneOf(30)) {
-                    same("trait(" + under + ", " + above + ")", board.trait(under, above), model.trait(under, above));
+                    same("trait", under, above);
                 }
                 break;
-            case 3:
-                same("has(" + c + ", " + t + ")", board.has(c, t), model.has(c, t));
+            case 5:
+            case 6:
+            case 7:
+                same("has", c, t);
                 break;
             default:
-                same("flag(" + c + ")", board.flag(c), model.flag(c));
+                if (oneOf(2)) {
+                    same("flag", c);
+                }
         }
     }
 
     private void anyCall() {
         int kind = below(100);
-        if (kind < 6) {
-            int c = number(0, 11);
-            int w = weight();
-            same("sample(" + c + ", " + w + ")", board.sample(c, w), model.sample(c, w));
-        } else if (kind < 8) {
-            int places = number(1, 2);
-            same("function(" + places + ")", board.function(places), model.function(places));
-        } else if (kind < 40) {
+        if (kind < 1) {
+            same("function", number(1, 2));
+        } else if (kind < 16) {
+            newHandler();
+        } else if (kind < 30) {
             handlerCall();
-        } else if (kind < 50) {
-            int i = number(0, 1);
-            int s = number(0, Math.max(0, board.samples() - 1));
-            same("arg(" + i + ", " + s + ")", board.arg(i, s), model.arg(i, s));
-        } else if (kind < 80) {
+        } else if (kind < 48) {
+            tell();
+        } else if (kind < 68) {
             callAndTell();
         } else if (kind < 98) {
             question();
         } else if (kind < 99) {
             tableCall();
         } else {
-            same("close()", board.close(), model.close());
+            same("close");
         }
     }
 
+    private void newHandler() {
+        same("handler", someFunction(), number(0, 7), weight(), oneOf(5));
+        int h = Math.max(0, model.count(-1, 1) - 1);
+        for (int i = 0; i < 2; i++) {
+            same("place", h, i, code());
+            if (oneOf(3)) {
+                range(h, i);
+            }
+        }
+        same("lay", h);
+    }
+
+    private void range(int h, int i) {
+        int one = weight();
+        int two = weight();
+        same("test", h, i, oneOf(20) ? one : Math.min(one, two), oneOf(20) ? two : Math.max(one, two));
+    }
+
+    private void tell() {
+        if (model.samples() < 6 || oneOf(4)) {
+            same("sample", someClass(), weight());
+        }
+        same("arg", number(0, 1), number(0, Math.max(0, model.samples() - 1)));
+    }
+
     private void handlerCall() {
-        int h = number(0, Math.max(0, board.count(-1, 1) - 1));
-        int newest = oneOf(3) ? h : Math.max(0, board.count(-1, 1) - 1);
-        int f = number(0, Math.max(0, board.count(-1, 0) - 1));
-        switch (below(11)) {
+        int h = someHandler();
+        int newest = oneOf(3) ? h : Math.max(0, model.count(-1, 1) - 1);
+        switch (below(7)) {
             case 0:
+                same("handler", someFunction(), number(0, 7), weight(), oneOf(4));
+                break;
             case 1:
-                int action = number(0, 7);
-                int value = weight();
-                boolean around = oneOf(4);
-                same("handler(" + f + ", " + action + ", " + value + ", " + around + ")",
-                    board.handler(f, action, value, around), model.handler(f, action, value, around));
+                same("place", newest, number(0, 1), code());
                 break;
             case 2:
+                range(newest, number(0, 1));
+                break;
             case 3:
+                same("lay", newest);
+                break;
             case 4:
-                int i = number(0, 1);
-                int code = number(-1, 15);
-                same("place(" + newest + ", " + i + ", " + code + ")",
-                    board.place(newest, i, code), model.place(newest, i, code));
-                break;
             case 5:
-            case 6:
-                int at = number(0, 1);
-                int one = weight();
-                int two = weight();
-                int low = oneOf(9) ? one : Math.min(one, two);
-                int high = oneOf(9) ? two : Math.max(one, two);
-                same("test(" + newest + ", " + at + ", " + low + ", " + high + ")",
-                    board.test(newest, at, low, high), model.test(newest, at, low, high));
-                break;
-            case 7:
-            case 8:
-                same("lay(" + newest + ")", board.lay(newest), model.lay(newest));
-                break;
-            case 9:
-                if (oneOf(2)) {
-                    same("lift(" + h + ")", board.lift(h), model.lift(h));
-                }
+                same("lift", h);
                 break;
             default:
-                boolean on = oneOf(5);
-                same("freeze(" + f + ", " + on + ")", board.freeze(f, on), model.freeze(f, on));
+                same("freeze", someFunction(), oneOf(5));
         }
     }
 
     private void callAndTell() {
-        int f = number(0, Math.max(0, board.count(-1, 0) - 1));
-        same("call(" + f + ")", board.call(f), model.call(f));
-        same("value()", board.value(), model.value());
-        same("failure()", board.failure(), model.failure());
-        for (int k = -1; k <= model.count(-1, 3); k++) {
-            same("step(" + k + ")", board.step(k), model.step(k));
+        int f = someFunction();
+        same("call", f);
+        same("value");
+        same("failure");
+        int steps = model.count(-1, 3);
+        for (int k = -1; k <= steps && k < 8; k++) {
+            same("step", k);
         }
-        for (int what = -1; what <= 5; what++) {
-            same("count(-1, " + what + ")", board.count(-1, what), model.count(-1, what));
-            same("count(" + f + ", " + what + ")", board.count(f, what), model.count(f, what));
+        same("step", steps - 1);
+        for (int what = 3; what <= 4; what++) {
+            same("count", -1, what);
+            same("count", f, what);
         }
     }
 
     private void question() {
-        int f = number(0, Math.max(0, board.count(-1, 0) - 1));
-        int h = number(0, Math.max(0, board.count(-1, 1) - 1));
-        int g = number(0, Math.max(0, board.count(-1, 1) - 1));
+        int f = someFunction();
         int k = number(0, 5);
         switch (below(8)) {
             case 0:
-                same("about(" + h + ", " + k + ")", board.about(h, k), model.about(h, k));
-                same("dominates(" + h + ", " + g + ")", board.dominates(h, g), model.dominates(h, g));
+                same("about", someHandler(), number(0, 10));
+                same("dominates", someHandler(), someHandler());
                 break;
             case 1:
-                same("order(" + f + ", " + k + ")", board.order(f, k), model.order(f, k));
+                same("order", f, k);
                 break;
             case 2:
-                same("applicable(" + f + ", " + k + ")", board.applicable(f, k), model.applicable(f, k));
-                same("most(" + f + ")", board.most(f), model.most(f));
+                same("applicable", f, k);
+                same("most", f);
                 break;
             case 3:
             case 4:
-                same("explain(" + h + ")", board.explain(h), model.explain(h));
-                same("where()", board.where(), model.where());
+                same("explain", someHandler());
+                same("where");
                 break;
             case 5:
-                int s = number(0, 20);
-                int what = number(0, 1);
-                same("of(" + s + ", " + what + ")", board.of(s, what), model.of(s, what));
-                same("counter(" + k + ")", board.counter(k), model.counter(k));
-                same("below(" + h + ", " + g + ")", board.below(h, g), model.below(h, g));
+                same("of", number(0, 20), number(0, 1));
+                same("counter", k);
+                same("below", number(0, 15), number(0, 15));
                 break;
             default:
-                if (oneOf(6)) {
-                    proofs(f, number(0, 3));
+                if (oneOf(3)) {
+                    same("covered", f);
+                    same("hole", f, number(0, 3));
+                    same("doubt", f, number(0, 2), k);
                 }
         }
     }
 
-    private void proofs(int f, int k) {
-        same("covered(" + f + ")", board.covered(f), model.covered(f));
-        int what = number(0, 5);
-        same("hole(" + f + ", " + what + ")", board.hole(f, what), model.hole(f, what));
-        same("doubt(" + f + ", " + k + ", " + what + ")", board.doubt(f, k, what), model.doubt(f, k, what));
+    /** Asks everything at the end of a run, on as many boards as are needed for it. */
+    private void tellAll() {
+        questions = new ArrayList<>();
+        askAboutTable();
+        askAboutHandlers();
+        askAboutFunctions();
+        int room = Run.MOST_CALLS - calls.size();
+        for (int from = 0; from < questions.size(); from += room) {
+            CallBoard fresh = Run.playAll(calls);
+            for (String question : questions.subList(from, Math.min(from + room, questions.size()))) {
+                Call call = Call.read(question);
+                due.is("at the end of run " + run + ": " + question, call.on(fresh), call.on(model));
+            }
+        }
     }
 
-    /** Everything that can be asked at the end of a run. */
-    private void tellAll() {
-        same("samples()", board.samples(), model.samples());
+    private void askAboutTable() {
         for (int x = -1; x <= 16; x++) {
             for (int y = -1; y <= 16; y++) {
-                same("below(" + x + ", " + y + ")", board.below(x, y), model.below(x, y));
+                questions.add("below(" + x + ", " + y + ")");
             }
         }
-        for (int h = 0; h < 40; h++) {
+        questions.add("samples()");
+        for (int s = 0; s <= model.samples(); s++) {
+            questions.add("of(" + s + ", 0)");
+            questions.add("of(" + s + ", 1)");
+        }
+        for (int k = -1; k <= 8; k++) {
+            questions.add("counter(" + k + ")");
+        }
+    }
+
+    private void askAboutHandlers() {
+        int handlers = model.count(-1, 1);
+        for (int h = 0; h <= handlers; h++) {
             for (int what = -1; what <= 11; what++) {
-                same("about(" + h + ", " + what + ")", board.about(h, what), model.about(h, what));
+                questions.add("about(" + h + ", " + what + ")");
             }
-            for (int g = 0; g < 40; g++) {
-                same("dominates(" + h + ", " + g + ")", board.dominates(h, g), model.dominates(h, g));
+            for (int g = 0; g <= handlers; g++) {
+                questions.add("dominates(" + h + ", " + g + ")");
             }
-            same("explain(" + h + ")", board.explain(h), model.explain(h));
-            same("where()", board.where(), model.where());
         }
-        for (int f = 0; f < 4; f++) {
+        questions.add("where()");
+        for (int h = 0; h <= handlers; h++) {
+            questions.add("explain(" + h + ")");
+        }
+    }
+
+    private void askAboutFunctions() {
+        for (int f = -1; f <= 4; f++) {
             for (int k = -1; k <= 8; k++) {
-                same("order(" + f + ", " + k + ")", board.order(f, k), model.order(f, k));
-                same("applicable(" + f + ", " + k + ")", board.applicable(f, k), model.applicable(f, k));
+                questions.add("order(" + f + ", " + k + ")");
+                questions.add("applicable(" + f + ", " + k + ")");
             }
-            same("most(" + f + ")", board.most(f), model.most(f));
-            for (int what = 0; what < 4; what++) {
-                same("hole(" + f + ", " + what + ")", board.hole(f, what), model.hole(f, what));
+            for (int what = -1; what <= 6; what++) {
+                questions.add("count(" + f + ", " + what + ")");
+                questions.add("hole(" + f + ", " + what + ")");
+                questions.add("doubt(" + f + ", 0, " + what + ")");
             }
-            for (int what = 0; what < 6; what++) {
-                same("doubt(" + f + ", 0, " + what + ")", board.doubt(f, 0, what), model.doubt(f, 0, what));
-                same("doubt(" + f + ", 2, " + what + ")", board.doubt(f, 2, what), model.doubt(f, 2, what));
-            }
-        }
-        for (int k = 0; k < 8; k++) {
-            same("counter(" + k + ")", board.counter(k), model.counter(k));
+            questions.add("doubt(" + f + ", 1, 1)");
+            questions.add("doubt(" + f + ", 3, 5)");
+            questions.add("most(" + f + ")");
+            questions.add("covered(" + f + ")");
         }
     }
 }
