@@ -30,6 +30,7 @@ public final class ProofEdgeTest {
         doubtState();
         doubtWithoutClasses();
         doubtOfMostPieces();
+        functionsInTurn();
         due.end();
     }
 
@@ -507,6 +508,34 @@ public final class ProofEdgeTest {
             }
             doubt(x, 0, 5, 6, 0, 0, place == 0 ? 1701 : MIN, place == 0 ? MIN : 1701);
             noDoubt(x, 1);
+        }
+    }
+
+    private static void layAt(Run x, int f, int place, String... ranges) {
+        for (String range : ranges) {
+            x.lays(f, 0, 0, false, place == 0 ? range : "-1", place == 0 ? "-1" : range);
+        }
+    }
+
+    /** What was proved of a function with more pieces and more doubts isn't said of the next one. */
+    private static void functionsInTurn() {
+        for (int place = 0; place < 2; place++) {
+            Run x = oneClass(due.term("that aren't AROUND is a TUPLE that both TAKE"), 2);
+            x.does("function(2)", "function(2)");
+            layAt(x, 0, place, "-1 0 5", "-1 6 9");
+            layAt(x, 1, place, "-1 0 20", "-1 10 30", "-1 5 6");
+            layAt(x, 2, place, "-1 100 101", "-1 110 111", "-1 120 121", "-1 130 131", "-1 140 141", "-1 150 151",
+                "-1 160 161", "-1 170 171");
+            for (int times = 0; times < 3; times++) {
+                x.is("doubt(2, 0, 0)", Due.NO_PROOF);
+                x.is("doubt(1, 0, 1)", 3);
+                x.is("doubt(1, 0, " + (4 + place) + ")", 10);
+                noDoubt(x, 0);
+            }
+            x.does("lift(0)");
+            x.makes(0, 0, 0, false, place == 0 ? "-1 MIN 5" : "-1", place == 0 ? "-1" : "-1 MIN 5");
+            x.does("lay(13)", "covered(2)", "covered(1)");
+            hole(x, 0, 0, 0, place == 0 ? 10 : MIN, place == 0 ? MIN : 10);
         }
     }
 }
