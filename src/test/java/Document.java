@@ -18,17 +18,28 @@ final class Document {
         }
     }
 
-    /** Whether a part ("Terms", "Promise 2") has the words; a missing document has all of them. */
-    static boolean says(String part, String words) {
-        if (TEXT.isEmpty()) {
-            return true;
-        }
+    static boolean isMissing() {
+        return TEXT.isEmpty();
+    }
+
+    /** A part ("Terms", "Promise 2") as it stands, without its title; empty if there is none such. */
+    static String part(String name) {
         for (String section : TEXT.split("\n## ")) {
-            boolean isPart = section.startsWith(part + "\n") || section.startsWith(part + ":");
-            if (isPart && section.replaceAll("\\s+", " ").contains(words)) {
-                return true;
+            int end = section.indexOf('\n');
+            String title = end < 0 ? section : section.substring(0, end);
+            if (title.equals(name) || title.startsWith(name + ":")) {
+                return section.substring(title.length());
             }
         }
-        return false;
+        return "";
+    }
+
+    static String onOneLine(String text) {
+        return text.replaceAll("\\s+", " ");
+    }
+
+    /** Whether a part has the words; a missing document has all of them. */
+    static boolean says(String part, String words) {
+        return isMissing() || onOneLine(part(part)).contains(words);
     }
 }
