@@ -10,6 +10,7 @@ public final class ProofEdgeTest {
         holeOfOneWeight();
         holeOfNoneChosen();
         holeOnlyOfPlain();
+        holeOnlyOfPlainAtTwoPlaces();
         holeClasses();
         tupleOrder();
         tupleOrderOfWeights();
@@ -23,6 +24,7 @@ public final class ProofEdgeTest {
         doubtNeither();
         doubtThanBoth();
         doubtOnlyOfPlain();
+        doubtOnlyOfPlainAtTwoPlaces();
         doubtPairsInOrder();
         doubtManyPairs();
         doubtFirstTuple();
@@ -160,6 +162,25 @@ public final class ProofEdgeTest {
         x.does("lift(1)");
         x.lays(0, 0, 0, false, "-1 MIN 10");
         hole(x, 0, 0, 0, 11, 0);
+    }
+
+    private static void holeOnlyOfPlainAtTwoPlaces() {
+        Run x = oneClass(due.term("of the LAID HANDLERS that aren't AROUND and TAKE it"), 2);
+        x.lays(0, 0, 0, true, "-1", "-1");
+        hole(x, 0, 0, 0, MIN, MIN);
+        x.lays(0, 0, 0, false, "-1", "-1");
+        noHole(x, 0);
+        x.lays(0, 0, 0, true, "-1 0 6", "-1");
+        x.lays(0, 0, 0, true, "-1", "-1 5 9");
+        noHole(x, 0);
+        x.lays(0, 0, 0, false, "-1 0 6", "-1");
+        x.lays(0, 0, 0, false, "-1", "-1 5 9");
+        hole(x, 0, 0, 0, 0, 5);
+        // One around that is more specific than both isn't chosen.
+        x.lays(0, 0, 0, true, "-1 0 6", "-1 5 9");
+        hole(x, 0, 0, 0, 0, 5);
+        x.lays(0, 0, 0, false, "-1 0 6", "-1 5 9");
+        noHole(x, 0);
     }
 
     private static void holeClasses() {
@@ -405,6 +426,21 @@ public final class ProofEdgeTest {
         x.does("lay(3)");
         doubt(x, 0, 2, 3, 0, 0, 6, 0);
         noDoubt(x, 1);
+    }
+
+    private static void doubtOnlyOfPlainAtTwoPlaces() {
+        Run x = oneClass(due.term("A DOUBT of two LAID HANDLERS g and h (g the lesser number) that aren't AROUND"), 2);
+        x.lays(0, 0, 0, true, "-1 0 6", "-1");
+        x.lays(0, 0, 0, true, "-1", "-1 5 9");
+        x.lays(0, 0, 0, false, "-1 2 8", "-1");
+        noDoubt(x, 0);
+        x.lays(0, 0, 0, false, "-1", "-1 7 12");
+        doubt(x, 0, 2, 3, 0, 0, 2, 7);
+        noDoubt(x, 1);
+        x.lays(0, 0, 0, true, "-1 2 8", "-1 7 12");
+        doubt(x, 0, 2, 3, 0, 0, 2, 7);
+        x.lays(0, 0, 0, false, "-1 2 8", "-1 7 12");
+        noDoubt(x, 0);
     }
 
     private static void doubtPairsInOrder() {
