@@ -389,7 +389,10 @@ public final class ProofEdgeTest {
         x.lays(0, 0, 0, false, "0");
         x.lays(0, 0, 0, false, "12");
         doubt(x, 0, 0, 1, 1, 0, MIN, 0);
-        // More specific than one of them alone.
+        // More specific than one of them alone, whichever that is.
+        Run lesser = x.again();
+        lesser.lays(0, 0, 0, false, "0 MIN 9");
+        doubt(lesser, 0, 0, 1, 1, 0, MIN, 0);
         x.lays(0, 0, 0, false, "12 MIN 9");
         doubt(x, 0, 0, 1, 1, 0, MIN, 0);
         x.does("lift(2)");
