@@ -1,7 +1,7 @@
 import java.util.ArrayList;
 import java.util.List;
 
-/** Every call with every number that is an end of something, in boards that are empty, open, busy and full. */
+/** Every call with numbers that are ends of something, on boards that are new, open, closed, busy and full. */
 public final class NumbersTest {
     private static final String[] NUMBERS = {"MIN", "-2147483647", "-40", "-3", "-2", "-1", "0", "1", "2", "3", "4", "5", "6", "7", "8",
         "10", "11", "12", "15", "16", "17", "28", "39", "40", "299", "300", "1000", "65536", "2147483646", "MAX"};
